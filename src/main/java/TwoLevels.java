@@ -118,15 +118,24 @@ public final class TwoLevels {
         }
         int header = place - 1;
         int body = bodyFor(n);
-        if (body > pool.bodyOf(header) && body > bodyWithBehind(header)) {
-            return move(header, body);
+        if (body <= bodyWithBehind(header)) {
+            lists.forgetMoves();
+            if (body > pool.bodyOf(header)) {
+                joinBehind(header);
+            }
+            cutTo(header, body);
+            return place;
+        }
+        int to = lists.headerFor(body);
+        if (to == NONE) {
+            return refuse();
         }
         lists.forgetMoves();
-        if (body > pool.bodyOf(header)) {
-            joinBehind(header);
-        }
-        cutTo(header, body);
-        return place;
+        take(to);
+        cutTo(to, body);
+        copyBody(header, to);
+        release(header);
+        return to + 1;
     }
 
     public int grow(int n) {
@@ -432,20 +441,11 @@ public final class TwoLevels {
         pool.tellBehind(header);
     }
 
-    private int move(int from, int body) {
-        int to = lists.headerFor(body);
-        if (to == NONE) {
-            return refuse();
-        }
-        lists.forgetMoves();
-        take(to);
-        cutTo(to, body);
+    private void copyBody(int from, int to) {
         int words = Math.min(pool.bodyOf(from), MOST_POOL);
         for (int i = 1; i <= words; i++) {
             pool.lay(to + i, pool.at(from + i));
         }
-        release(from);
-        return to + 1;
     }
 
     /** The number of a class is 8 f + s. */
@@ -488,11 +488,11 @@ public final class TwoLevels {
         }
 
         long at(int w) {
-            return has(w) ? words[w] : 0L;
+            return w >= 0 && w < end ? words[w] : 0L;
         }
 
         void lay(int w, long v) {
-            if (has(w)) {
+            if (w >= 0 && w < end) {
                 words[w] = v;
             }
         }
@@ -510,7 +510,7 @@ public final class TwoLevels {
         }
 
         int behind(int header) {
-            return header + 1 + bodyOf(header);
+            return header + 1 + (int) (at(header) / LENGTH_UNIT);
         }
 
         /** A free block's last word tells how long it is, to the one behind it. */
@@ -632,14 +632,14 @@ public final class TwoLevels {
 
     /** Tells what is wrong in a pool whose words may hold anything. */
     private static final class Checker {
-        private static final byte UNMET = 1;
-        private static final byte MET = 2;
+        private static final int UNMET = 1;
+        private static final int MET = 2;
 
         private final Pool pool;
         private final Lists lists;
         /** By header: whether a free block is there, and was met in a list. */
-        private final byte[] marks = new byte[MOST_POOL];
-        private int wrongAt = NONE;
+        private final int[] marks = new int[MOST_POOL];
+        private int wrongAt;
 
         Checker(Pool pool, Lists lists) {
             this.pool = pool;
@@ -647,7 +647,7 @@ public final class TwoLevels {
         }
 
         int run() {
-            Arrays.fill(marks, (byte) 0);
+            Arrays.fill(marks, 0);
             wrongAt = NONE;
             int wrong = readBlocks();
             for (int c = 0; c < LISTS && wrong == 0; c++) {
@@ -661,11 +661,11 @@ public final class TwoLevels {
             return wrong;
         }
 
-        private byte markOf(int header) {
+        private int markOf(int header) {
             return header >= 0 && header < MOST_POOL ? marks[header] : 0;
         }
 
-        private void mark(int header, byte mark) {
+        private void mark(int header, int mark) {
             if (header >= 0 && header < MOST_POOL) {
                 marks[header] = mark;
             }

@@ -47,6 +47,10 @@ public final class PromiseTest {
     }
 
     private static void newObject() {
+        due("NONE", TwoLevels.NONE, -1);
+        due("BAD", TwoLevels.BAD, -2);
+        due("SPOILT", TwoLevels.SPOILT, -3);
+        due("FULL", TwoLevels.FULL, -4);
         TwoLevels x = new TwoLevels();
         due("count(0)", x.count(0), 64);
         dueBlocks(x, 63, 1);
@@ -674,16 +678,34 @@ public final class PromiseTest {
         due("block(0, 3)", x.block(0, 3), TwoLevels.BAD);
         due("block(-1, 0)", x.block(-1, 0), TwoLevels.BAD);
 
-        // as many blocks as can be
-        x = pool(2048);
-        for (int i = 0; i < 480; i++) {
-            due("alloc(1)", x.alloc(1), 4 * i + 1);
+        manyBlocks();
+    }
+
+    /** Two blocks a call: from place 8 on used and free ones of three words by turns. */
+    private static void manyBlocks() {
+        TwoLevels x = pool(2048);
+        due("alloc(6)", x.alloc(6), 1);
+        for (int i = 1; i <= 254; i++) {
+            due("aligned(3, 8)", x.aligned(3, 8), 8 * i);
         }
-        due("block(479, 0)", x.block(479, 0), 1917);
-        due("block(480, 1)", x.block(480, 1), 127);
-        due("block(481, 1)", x.block(481, 1), TwoLevels.NONE);
-        due("free(1917)", x.free(1917), 131);
-        due("count(6)", x.count(6), 479);
+        due("aligned(3, 8)", x.aligned(3, 8), TwoLevels.NONE);
+        due("count(6)", x.count(6), 255);
+        due("count(7)", x.count(7), 254);
+        due("block(508, 0)", x.block(508, 0), 2036);
+        due("block(508, 1)", x.block(508, 1), 12);
+        due("block(509, 0)", x.block(509, 0), TwoLevels.NONE);
+        due("listed(3, 0)", x.listed(3, 0), 2028);
+        due("listed(3, 252)", x.listed(3, 252), 12);
+        due("listed(3, 253)", x.listed(3, 253), TwoLevels.NONE);
+        due("size(2032)", x.size(2032), 3);
+        due("spoil(12, 2028)", x.spoil(12, 2028), 1);
+        due("check()", x.check(), 5);
+        due("where()", x.where(), 11);
+        due("spoil(12, 0)", x.spoil(12, 0), 1);
+        dueSound(x);
+        due("free(2032)", x.free(2032), 20);
+        due("count(1)", x.count(1), 3);
+        dueSound(x);
     }
 
     private static void found() {
