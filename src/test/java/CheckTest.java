@@ -21,7 +21,8 @@ public final class CheckTest {
             } else {
                 p.wrong(kind, at);
             }
-            p.spoil(w, was, 1).where(at).count(2, 1).sound().blocks(-5, 5, -5, 5, -5, 5, -27).list(5, 25, 13, 1).alloc(5, 25);
+            p.spoil(w, was, 1).where(at).count(2, 1).sound().blocks(-5, 5, -5, 5, -5, 5, -27);
+            p.list(5, 25, 13, 1).alloc(5, 25);
         }
     }
 
@@ -190,7 +191,8 @@ public final class CheckTest {
         // LINK goes before LOST
         striped().spoil(25, 0, 1).spoil(38, 1, 1).wrong(LINK, NONE).spoil(38, 0, 1).wrong(LOST, 0);
         // of the lower PLACE, though of the higher CLASS
-        Probe.cut(-9, 4, -3, 4, -9, 4, -3, 4).list(9, 25, 1).list(3, 40, 16).spoil(25, 0, 1).spoil(40, 0, 1).wrong(LOST, 0);
+        Probe.cut(-9, 4, -3, 4, -9, 4, -3, 4).list(9, 25, 1).list(3, 40, 16).spoil(25, 0, 1).spoil(40, 0, 1)
+            .wrong(LOST, 0);
     }
 
     private static void told() {
@@ -202,16 +204,16 @@ public final class CheckTest {
         told(3, 0, 0, NONE, -1, Long.MIN_VALUE, 5);
         told(7, 0, 0, NONE, -1, 13, Long.MAX_VALUE);
         // a POOL that was cut anew is taken as it is
-        Probe p = Probe.of(32).alloc(9, 1).put(1, 4, 16, 1).spoil(0, 16, 1).sound().blocks(4, 4, -21).free(6, 26).sound();
+        Probe p = Probe.of(32).alloc(9, 1).put(1, 4, 16, 1).spoil(0, 16, 1).sound().blocks(4, 4, -21).free(6, 26);
         p.size(1, 4).alloc(3, 6).size(6, 3).sound();
         // one of the LIST is told as USED, and the links go around it
         striped().spoil(25, 1, 1).spoil(2, 25, 1).spoil(12, 20, 1).spoil(18, 20, 1).sound().list(5, 25, 1)
             .blocks(-5, 5, 5, 5, -5, 5, -27).count(6, 4).count(7, 3).free(13, 5).list(5, 13, 25, 1).sound();
 
-        Report.says("Where the latest check() told what is wrong: the WORD of the HEADER (of 5: that of the one ahead in "
-            + "the LIST, NONE of the first); NONE: it told 0, there was none since open().");
-        new Probe().where(NONE).spoil(0, 0, 1).where(NONE).check(SIZE).where(0).where(0).spoil(0, 253, 1).where(0).check(0)
-            .where(NONE);
+        Report.says("Where the latest check() told what is wrong: the WORD of the HEADER (of 5: that of the one ahead "
+            + "in the LIST, NONE of the first); NONE: it told 0, there was none since open().");
+        new Probe().where(NONE).spoil(0, 0, 1).where(NONE).check(SIZE).where(0).where(0).spoil(0, 253, 1).where(0)
+            .check(0).where(NONE);
         p = striped().spoil(12, 0, 1).wrong(SIZE, 12).open(15, BAD).where(12).alloc(3, Probe.SPOILT).where(12);
         p.open(16, 1).where(NONE).check(0).where(NONE);
         striped().spoil(12, 0, 1).wrong(SIZE, 12).spoil(0, 0, 1).where(12).check(SIZE).where(0);

@@ -6,8 +6,8 @@ public final class LeftOverTest {
     private static final int NONE = Probe.NONE;
 
     private static void alloc() {
-        Report.says("if its BODY has 4 WORDS more than the WISH (n, 3 at least), or more, "
-            + "the WORDS behind are a FREE BLOCK then, which comes to its LIST.");
+        Report.says("ALLOC of n: FOUND leaves its LIST, and is USED; if its BODY has 4 WORDS more than the WISH "
+            + "(n, 3 at least), or more, the WORDS behind are a FREE BLOCK then, which comes to its LIST.");
         for (int left = 0; left <= 12; left++) {
             Probe p = Probe.of(16 + left).alloc(15, 1).links(left < 4 ? 1 : 2).sound();
             if (left < 4) {

@@ -4,7 +4,8 @@ public final class ListTest {
 
     /** Every pool there is: its one block has each n from 15 to 2047, and so is at every border of a class. */
     private static void everyBody() {
-        Report.says("The LIST of a CLASS has the FREE BLOCKS whose n is of it");
+        Report.says("Else, with 2^b the greatest power that is not above n: (b - 2, (n / 2^(b - 3), cut) - 8). "
+            + "The LIST of a CLASS has the FREE BLOCKS whose n is of it");
         for (int words = 16; words <= 2048; words++) {
             int body = words - 1;
             int b = 31 - Integer.numberOfLeadingZeros(body);
@@ -12,13 +13,11 @@ public final class ListTest {
             int f = b - 2;
             int s = body / width - 8;
             int least = body / width * width;
-            Probe p = Probe.of(words).classOf(body, false, 8 * f + s).list(8 * f + s, 1).bits(f, 1 << s).bits(9, 1 << f);
-            p.found(least, 1).found(least + 1, least + 1 > body || width > 1 ? NONE : 1);
-            if (8 * f + s > 0) {
-                p.list(8 * f + s - 1);
-            }
-            if (8 * f + s < 71) {
-                p.list(8 * f + s + 1);
+            int c = 8 * f + s;
+            Probe p = Probe.of(words).classOf(body, false, c).list(c, 1).bits(f, 1 << s).bits(9, 1 << f);
+            p.found(least, 1).found(least + 1, NONE).list(c - 1);
+            if (c < 71) {
+                p.list(c + 1);
             }
         }
 
@@ -32,7 +31,8 @@ public final class ListTest {
     private static void order() {
         Report.says("one that comes is its first");
         Probe p = Probe.cut(3, 3, 3, 3, 3, 3, 3).list(3);
-        p.free(9, 3).list(3, 9).free(1, 3).list(3, 1, 9).free(25, 3).list(3, 25, 1, 9).free(17, 3).list(3, 17, 25, 1, 9);
+        p.free(9, 3).list(3, 9).free(1, 3).list(3, 1, 9).free(25, 3).list(3, 25, 1, 9);
+        p.free(17, 3).list(3, 17, 25, 1, 9);
         p.found(3, 17).alloc(3, 17).list(3, 25, 1, 9).alloc(3, 25).list(3, 1, 9).alloc(3, 1).list(3, 9);
         p.alloc(3, 9).list(3).found(3, NONE).alloc(3, NONE).bits(0, 0).bits(9, 0).sound();
         // leaving from the middle, as the last, as the first
@@ -48,8 +48,8 @@ public final class ListTest {
     }
 
     private static void found() {
-        Report.says("FOUND for it is: the first one of its LIST; if that is empty, of the LIST with the least s above it "
-            + "and the same f that is not; else with the least f above it, and there the least s; else none.");
+        Report.says("FOUND for it is: the first one of its LIST; if that is empty, of the LIST with the least s "
+            + "above it and the same f that is not; else with the least f above it, and there the least s; else none.");
         // places 1, 7, 11, 19, 23, 32, 36 with n 5, 7, 8, 20; the USED ones between have 3
         Probe p = Probe.cut(-5, 3, -7, 3, -8, 3, -20, 3);
         p.found(1, 1).found(2, 1).found(3, 1).found(4, 1).found(5, 1).found(6, 11).found(7, 11);
@@ -159,12 +159,65 @@ public final class ListTest {
         return p;
     }
 
+    /**
+     * As many blocks as there can be, all used, of three words each. To make them one by one would be too many calls:
+     * a block whose words are such headers is copied by resize(), again and again, and at last its own header is laid.
+     */
+    private static Probe fullest(int words) {
+        Probe p = Probe.of(words).alloc(11, 1).put(1, 3, 12, 1).put(1, 7, 12, 1);
+        int end = 12;
+        while (end < 1000) {
+            copyBehind(p, end, words);
+            p.alloc(2 * end + 3, 1).put(1, end - 1, 12, 1).put(1, end + 3, 12, 1);
+            end = 2 * end + 4;
+        }
+        p.resize(1, 955, 1);
+        copyBehind(p, 956, words);
+        p.alloc(1019, 1).resize(1, words - 1, 1).put(1, 955, 12, 1).put(1, 959, 12, 1).put(1, 1019, 12, 1);
+        for (int w = 1916; w < words; w += 4) {
+            p.put(1, w - 1, 12, 1);
+        }
+        return p.spoil(0, 12, 1).sound();
+    }
+
+    /** The words ahead of the end are laid behind a block of three words that is there; then all is free. */
+    private static void copyBehind(Probe p, int end, int words) {
+        p.alloc(3, end + 1).resize(1, end, end + 5).free(end + 1, end + 3).free(end + 5, words - 1);
+    }
+
+    private static void fullPool() {
+        Report.says("BLOCKS lie in it one behind the other, from WORD 0 to its end");
+        Probe p = fullest(2048).count(0, 2048).count(4, 1536).count(5, 0).count(6, 512).count(7, 0).count(8, 0);
+        p.block(511, 0, 2045).block(511, 1, 3).block(511, 2, 0).block(512, 0, NONE).size(2045, 3).size(2041, 3);
+        p.alloc(1, NONE).aligned(1, 2, NONE).resize(2045, 4, NONE).count(3, 3).grow(4, FULL).bits(9, 0);
+        p.put(2045, 2, 9, 1).word(2047, 9).resize(2045, 3, 2045).links(0).free(2045, 3).links(1).word(2047, 3).sound();
+        p.block(511, 2, 1).count(6, 511).count(7, 1).count(8, 3).list(3, 2045).resize(2041, 7, 2041).sound();
+        p.block(510, 1, 7).block(511, 0, NONE).free(2041, 7).free(2037, 11).alloc(3, 2037).sound();
+        fullest(2048).spoil(2044, 16, 1).wrong(1, 2044).spoil(2044, 14, 1).wrong(2, 2044)
+            .spoil(2044, 13, 1).wrong(4, 2044).spoil(2047, 3, 1).wrong(6, 2044).spoil(2044, 12, 1).sound();
+        // the last one is looked at by grow(), too
+        fullest(2044).count(6, 511).grow(5, FULL).grow(4, 2048).links(1).block(511, 0, 2045).block(511, 2, 1)
+            .block(512, 0, NONE).sound();
+        fullest(2044).free(2041, 3).grow(4, 2048).links(2).block(510, 1, 7).block(511, 0, NONE).sound();
+
+        Report.says("The LIST of a CLASS has the FREE BLOCKS whose n is of it; one that comes is its first.");
+        p = fullest(2048);
+        for (int place = 1; place < 2048; place += 8) {
+            p.free(place, 3);
+        }
+        p.count(6, 256).count(7, 256).count(5, 768).count(8, 3).bits(0, 8).bits(9, 1).sound();
+        p.listed(3, 0, 2041).listed(3, 1, 2033).listed(3, 254, 9).listed(3, 255, 1).listed(3, 256, NONE);
+        p.alloc(4, NONE).spoil(1, 2041, 1).wrong(5, 0).spoil(1, 0, 1).spoil(9, 0, 1).wrong(6, 0).spoil(9, 1, 1).sound();
+        p.free(5, 11).links(3).listed(3, 253, 17).listed(3, 254, NONE).list(11, 1).alloc(3, 2041).free(2045, 3).sound();
+    }
+
     public static void main(String[] args) {
         everyBody();
         order();
         found();
         links();
         fullList();
+        fullPool();
         Report.end();
     }
 }

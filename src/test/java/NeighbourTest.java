@@ -142,7 +142,8 @@ public final class NeighbourTest {
         Probe.cut(-5, 3, 5).free(11, 5).list(5, 11, 1).grow(4, 20).links(2).blocks(-5, 3, -9).list(5, 1).list(9, 11)
             .sound();
         // a BLOCK in it is taken as any
-        Probe.of(16).alloc(15, 1).grow(16, 32).alloc(15, 17).blocks(15, 15).free(1, 15).free(17, 31).blocks(-31).sound();
+        Probe.of(16).alloc(15, 1).grow(16, 32).alloc(15, 17).blocks(15, 15).free(1, 15).free(17, 31).blocks(-31)
+            .sound();
 
         Report.says("GROWN: how many WORDS THE POOL has.");
         Probe p = Probe.of(16).alloc(15, 1);

@@ -146,6 +146,17 @@ public final class NumberEdgeTest {
             .size(2046, BAD).size(2047, BAD).size(2048, BAD).free(2045, 3).word(2047, 3);
     }
 
+    private static void size() {
+        Report.says("How many WORDS a USED BLOCK has. BAD; SPOILT.");
+        Probe.cut(3, -3, 7).size(1, 3).size(5, BAD).size(9, 7).free(9, 11).size(9, BAD).size(5, BAD).size(1, 3);
+        Probe.of(16).size(1, BAD).alloc(15, 1).size(1, 15).resize(1, 12, 1).size(1, 15).resize(1, 11, 1).size(1, 11)
+            .size(13, BAD).free(1, 15).size(1, BAD);
+        Probe.of(2048).alloc(3, 1).resize(1, 2047, 1).size(1, 2047).size(2, BAD).size(2047, BAD);
+        // a HEADER that a BODY holds is none
+        Probe.cut(3, 3, -7).free(5, 11).alloc(11, 5).word(8, 29).size(9, BAD).put(5, 3, 12, 1).size(9, BAD)
+            .free(9, BAD);
+    }
+
     private static void put() {
         Report.says("WORD i of a USED BLOCK's BODY becomes v: 1.");
         for (int i : new int[] {LEAST, LEAST + 7, -8, -7, -1, 3, 4, 63, 64, MOST - 6, MOST}) {
@@ -257,7 +268,8 @@ public final class NumberEdgeTest {
     }
 
     private static void block() {
-        Report.says("Of BLOCK i in THE POOL, from WORD 0 on: 0 its PLACE, 1 its WORDS, 2 whether it is FREE (1, 0).");
+        Report.says("Of BLOCK i in THE POOL, from WORD 0 on: 0 its PLACE, 1 its WORDS, 2 whether it is FREE (1, 0). "
+            + "BAD: another what, i below 0; SPOILT; NONE: there are not so many.");
         for (int what : new int[] {LEAST, -1, 3, 4, MOST}) {
             Probe.of(16).block(0, what, BAD).block(1, what, BAD);
         }
@@ -271,7 +283,8 @@ public final class NumberEdgeTest {
     }
 
     private static void count() {
-        Report.says("8 the most WORDS of a FREE one (0)");
+        Report.says("4 the WORDS of USED BLOCKS, 5 of FREE ones, 6 USED BLOCKS, 7 FREE ones, "
+            + "8 the most WORDS of a FREE one (0)");
         for (int what : new int[] {LEAST, -1, 9, 10, MOST}) {
             Probe.of(16).count(what, BAD);
         }
@@ -289,6 +302,7 @@ public final class NumberEdgeTest {
         resize();
         grow();
         places();
+        size();
         put();
         word();
         spoil();

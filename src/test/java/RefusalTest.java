@@ -49,7 +49,8 @@ public final class RefusalTest {
         states.put("spoilt everywhere it matters", new State(RefusalTest::ruined, 64, 7, 5, true));
         states.put("spoilt and checked", new State(() -> striped().spoil(12, 3, 1).wrong(1, 12), 64, 7, 5, true));
         states.put("spoilt and full", new State(() -> Probe.of(16).alloc(15, 1).spoil(0, 60, 1), 16, 1, 15, true));
-        states.put("spoilt, the greatest", new State(() -> Probe.of(2048).alloc(9, 1).spoil(2047, 0, 1), 2048, 1, 9, true));
+        states.put("spoilt, the greatest",
+            new State(() -> Probe.of(2048).alloc(9, 1).spoil(2047, 0, 1), 2048, 1, 9, true));
         return states;
     }
 
@@ -257,6 +258,14 @@ public final class RefusalTest {
         striped().put(7, 0, -1, 1).put(7, 4, Long.MIN_VALUE, 1).count(2, 0).sound();
         // a call of spoil() that is refused doesn't spoil
         striped().spoil(64, 0, BAD).spoil(-1, 0, BAD).count(2, 0).alloc(3, 25);
+
+        Report.says("0 WORDS of THE POOL, 1 LINKS, 2 whether it is SPOILT (1, 0)");
+        p = striped().count(0, 64).links(1).count(2, 0).alloc(28, NONE).spoil(0, 0, 1);
+        p.count(0, 64).links(1).count(2, 1).count(3, 1).alloc(28, SPOILT).count(3, 1);
+
+        Report.says("of 4 to 8 SPOILT. BAD.");
+        striped().spoil(7, 0, 1).count(3, 0).count(4, SPOILT).count(8, SPOILT).count(9, BAD).check(0).count(4, 15)
+            .count(5, 42).count(6, 3).count(7, 4).count(8, 27);
 
         Report.says("(What is first in each LIST is no WORD of THE POOL, and cannot be spoilt.)");
         p = ruined().bits(0, 32).bits(1, 0).bits(2, 32).bits(9, 5).word(0, Long.MIN_VALUE).word(63, 63).where(NONE);
