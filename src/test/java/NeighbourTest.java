@@ -141,6 +141,8 @@ public final class NeighbourTest {
         Probe.cut(-5, 3, -5).list(5, 1, 11).grow(4, 20).links(2).blocks(-5, 3, -9).list(5, 1).list(9, 11).sound();
         Probe.cut(-5, 3, 5).free(11, 5).list(5, 11, 1).grow(4, 20).links(2).blocks(-5, 3, -9).list(5, 1).list(9, 11)
             .sound();
+        // what an earlier POOL had there is gone
+        Probe.of(64).spoil(20, 7, 1).open(16, 1).grow(8, 24).words(15, 15, 30, 0, 0, 0, 0, 0, 0, 23).sound();
         // a BLOCK in it is taken as any
         Probe.of(16).alloc(15, 1).grow(16, 32).alloc(15, 17).blocks(15, 15).free(1, 15).free(17, 31).blocks(-31)
             .sound();
